@@ -847,7 +847,7 @@ public final class ThinkingArms {
         private Claim inside;
         private Claim next;
 
-        static boolean holds(Claim test, int senses, int open) {
+        private static boolean holds(Claim test, int senses, int open) {
             if (open > MOST_OPEN) {
                 return false;
             }
