@@ -7,6 +7,7 @@ public final class ReachTest {
         othersAsTheyAre();
         allIsAsItWas();
         longestArm();
+        alike();
         corridor();
         Check.end();
     }
@@ -114,6 +115,24 @@ public final class ReachTest {
         Check.due("a new arm", x.far(0, 5, 3), ThinkingArms.NONE);
         Check.due("its own reach", x.far(1, 5, 2), 1);
         Check.due("and the first's again", x.far(0, 5, 3), ThinkingArms.NONE);
+    }
+
+    /** A search must not be taken for another one's that is alike but for one thing. */
+    private static void alike() {
+        ThinkingArms x = new ThinkingArms();
+        x.arm(0, 0, 2, 0);
+        x.arm(3, 3, 2, 0);
+        Check.due("in the corner", x.forms(0), 2);
+        Check.due("in the open, of the same form", x.forms(1), 4);
+        Check.due("in the corner", x.reach(0), 2);
+        ThinkingArms y = new ThinkingArms();
+        y.image(0);
+        y.arm(3, 3, 4, 0 + 4 * 1 + 16 * 2);
+        Check.due("its tip", y.far(0, 3, 4), 0);
+        y.restore(0);
+        y.arm(3, 3, 4, 1 + 4 * 0 + 16 * 3);
+        Check.due("on the same cells the other way round", y.far(0, 4, 3), 0);
+        Check.due("no tip there now", y.far(0, 3, 4) > 0 ? 1 : 0, 1);
     }
 
     /** In a sea this wide a long arm in the middle comes to cells of one colour of the board alone. */

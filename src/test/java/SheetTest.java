@@ -82,6 +82,14 @@ public final class SheetTest {
         Check.due("as ints", x.film(0, 1, 2, 0), 4);
         Check.due("bytes are there", x.differs(0, 0, 1, 2), ThinkingArms.NONE);
         Check.due("ints are there", x.differs(0, 1, 2, 0), ThinkingArms.NONE);
+        x.sheet(3, 2, 64);
+        x.item(3, 2, 4, 60);
+        x.item(3, 2, 5, 61);
+        x.item(3, 2, 6, 62);
+        x.item(3, 2, 7, 63);
+        x.film(0, 3, 2, 0);
+        Check.due("a film writes no more than its pieces", x.differs(0, 3, 2, 4), ThinkingArms.NONE);
+        x.drop(3);
         x.film(0, 0, 1, 3);
         Check.due("a film out of the row writes nothing", x.differs(0, 0, 1, 2), ThinkingArms.NONE);
         Check.due("of a cut arm, too", x.cut(0, 1) + x.film(0, 0, 1, 0), 7);

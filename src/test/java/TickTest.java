@@ -16,6 +16,7 @@ public final class TickTest {
         cutArmInTicks();
         cutAndThings();
         count();
+        fullSea();
         Check.end();
     }
 
@@ -335,6 +336,32 @@ public final class TickTest {
         z.ticks(1);
         z.cut(0, 3);
         Check.due("the part at the mouth eats still", z.ticks(2), 1);
+    }
+
+    /** As many arms, pieces, things as there can be: all calls that go through them. */
+    private static void fullSea() {
+        ThinkingArms x = new ThinkingArms();
+        for (int a = 0; a < 3; a++) {
+            x.arm(0, 3 * a, 7, 0);
+            Check.rules(x, a, "h:p;x&!h:g;w1:o1");
+        }
+        for (int t = 0; t < 7; t++) {
+            x.thing(t, 4, 3);
+        }
+        x.thing(7, 6, 0);
+        x.image(0);
+        Check.due("grabbed in the first tick, passed in six", x.ticks(6), 0);
+        Check.due("eaten in the seventh", x.ticks(1), 1);
+        Check.due("by the last arm", x.told(7, 3), 20);
+        x.restore(0);
+        Check.due("lying", x.told(7, 1), 55);
+        Check.due("by any word", x.fewest(0, 7, 7, 0), 1);
+        Check.due("by any word", x.fewest(2, 7, 7, 1), 0);
+        Check.due("not in six", x.fewest(2, 7, 6, 0), ThinkingArms.NONE);
+        Check.due("a thing of the skin's taste", x.fewest(1, 0, 20, 0), ThinkingArms.NONE);
+        Check.due("60", x.ticks(60), 1);
+        Check.due("the skin's lie still", x.count(2), 7);
+        Check.due("none is held", x.count(3), 0);
     }
 
     private static void count() {
