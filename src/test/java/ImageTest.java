@@ -37,23 +37,23 @@ public final class ImageTest {
         return x;
     }
 
-    /** All that is told of the sea, as one number. */
+    /** All that is told of the scene, as one number, in 83 calls: an object is good for 512. */
     private static long all(ThinkingArms x) {
         long sum = 0;
         for (int what = 0; what <= 6; what++) {
             sum = 31 * sum + x.count(what);
         }
-        for (int a = 0; a < 3; a++) {
+        for (int a = 0; a < 2; a++) {
             sum = 31 * sum + x.form(a);
             sum = 31 * sum + x.forms(a);
-            for (int k = 0; k < 7; k++) {
+            for (int k = 0; k < 4; k++) {
                 for (int what = 0; what <= 5; what++) {
                     sum = 31 * sum + x.piece(a, k, what);
                 }
                 sum = 31 * sum + x.finds(a, k);
             }
         }
-        for (int t = 0; t < 8; t++) {
+        for (int t = 0; t < 4; t++) {
             for (int what = 0; what <= 3; what++) {
                 sum = 31 * sum + x.told(t, what);
             }
