@@ -8,6 +8,7 @@ public final class EdgeReachTest {
         formsInTheOpen();
         formsNeverLeaveTheSea();
         onlyByFlipsAndTurns();
+        alikeButForOneThing();
         othersAsTheyAre();
         anArmThatIsCut();
         farAtEveryCell();
@@ -118,6 +119,35 @@ public final class EdgeReachTest {
         y.wall(4, 5, true);
         Check.due("curled up behind walls: its tip is shut in, and nothing flips over it", y.forms(0), 1);
         Check.due("its tip", y.far(0, 3, 4), 0);
+    }
+
+    /** Two arms that are alike but for one thing have each a reach of its own. */
+    private static void alikeButForOneThing() {
+        ThinkingArms x = new ThinkingArms();
+        x.image(0);
+        x.arm(3, 3, 3, 0);
+        Check.due("three pieces", x.forms(0), 12);
+        x.restore(0);
+        x.wall(5, 3, true);
+        x.arm(3, 3, 2, 0);
+        Check.due("two, and a wall where the third was", x.forms(0), 4);
+        Check.due("their cells", x.reach(0), 4);
+        x.restore(0);
+        x.arm(3, 3, 4, 0 + 4 * 1 + 16 * 2);
+        Check.due("its tip", x.far(0, 3, 4), 0);
+        x.restore(0);
+        x.arm(3, 3, 4, 1 + 4 * 0 + 16 * 3);
+        Check.due("the same cells the other way round", x.far(0, 4, 3), 0);
+        x.restore(0);
+        x.arm(3, 4, 4, 0 + 4 * 3 + 16 * 2);
+        Check.due("the same cells from another one on", x.far(0, 3, 3), 0);
+        ThinkingArms y = new ThinkingArms();
+        y.arm(1, 0, 2, 0);
+        Check.due("a turn to the first cell", y.far(0, 0, 0), 1);
+        Check.due("its cells", y.reach(0), 3);
+        y.arm(1, 4, 2, 0);
+        Check.due("the other's", y.reach(1), 4);
+        Check.due("its cells again", y.reach(0), 3);
     }
 
     /** "others as they are" */
@@ -262,6 +292,9 @@ public final class EdgeReachTest {
         row("w1&m0:s1;w2&m1:s2;w3&m2:s3;w1&m3:gp", 8, 1, 2, 3, 1);
         // a fifth is one too many
         row("w1&m0:s1;w2&m1:s2;w3&m2:s3;w1&m3&!h:g;w2&m3&h:p", 21);
+        // nor is there any word beside 0 .. 3
+        row("!w0&!w1&!w2&!w3:gp", 21);
+        row("w1&t1:gp;w2&t2:gp;w3&t3:gp", 21);
     }
 
     /** "words are said for 2 TICKS each, one behind the other" */

@@ -515,6 +515,7 @@ public final class EdgeRulesTest {
             Check.due("memory " + m, x.finds(0, 2), 0);
             Check.due("memory at first 0", x.finds(0, 1), m == 0 ? 0 : NONE);
         }
+        everyClaimOfItsOwn();
         ThinkingArms y = withArm();
         y.thing(5, 3, 0);
         Check.rules(y, 0, "x:g");
@@ -528,6 +529,30 @@ public final class EdgeRulesTest {
         y.cut(0, 2);
         Check.due("a tip by the cut", y.finds(0, 1), 0);
         Check.due("the last one is still", y.finds(0, 2), 0);
+    }
+
+    /** Of all claims with a digit just those that are meant hold, for piece 1 that hears w, feels t, remembers m, holds or not. */
+    private static void everyClaimOfItsOwn() {
+        String[] claims = {"w0", "w1", "w2", "w3", "t0", "t1", "t2", "t3", "m0", "m1", "m2", "m3", "h", "x", "*"};
+        for (int k = 0; k < 4 * 4 * 4 * 2; k++) {
+            int w = k & 3, t = k >> 2 & 3, m = k >> 4 & 3, h = k >> 6;
+            ThinkingArms x = withArm();
+            x.head(0, w);
+            x.skin(3 - t);
+            if (h == 1) {
+                x.thing(4, 3, t);
+                Check.rules(x, 0, "!x:gs" + m);
+            } else {
+                Check.rules(x, 0, "!x:s" + m);
+            }
+            x.ticks(1);
+            x.thing(4, 2, t);
+            for (int c = 0; c < claims.length; c++) {
+                Check.rules(x, 0, claims[c] + ":f");
+                boolean want = c == w || c == 4 + t || c == 8 + m || c == 12 && h == 1 || c == 14;
+                Check.due(claims[c] + " where w" + w + " t" + t + " m" + m + " h" + h, x.finds(0, 1), want ? 0 : NONE);
+            }
+        }
     }
 
     /** "(the first whose TEST holds, or none)" */

@@ -346,6 +346,8 @@ public final class EdgeSeaTest {
         for (int t = 0; t < 4; t++) {
             Check.due("taste " + t, x.thing(t, 0, t), t);
             Check.due("taste " + t, x.told(t, 2), t);
+            Check.due("of any taste: no wall", x.wall(t, 0, true), NOT);
+            Check.due("of any taste: no other", x.thing(t, 0, 3 - t), NOT);
         }
     }
 

@@ -341,6 +341,15 @@ public final class EdgeTickTest {
         Check.due("held no more", x.piece(0, 1, 2), NONE);
         Check.due("nobody's", x.told(0, 3), NONE);
         Check.due("two lie", x.count(2), 2);
+        for (int taste = 0; taste <= 3; taste++) {
+            ThinkingArms y = with(3, 3, 2, "*:g");
+            y.thing(5, 3, 0);
+            y.ticks(1);
+            y.thing(4, 3, taste);
+            Check.rules(y, 0, "*:d");
+            y.ticks(1);
+            Check.due("one of taste " + taste + " is lying there", y.told(0, 0), 1);
+        }
     }
 
     /** "(the last o; without: 0)" */
