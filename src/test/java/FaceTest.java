@@ -90,12 +90,20 @@ public final class FaceTest {
         for (Class<?> c : inside) {
             Check.holds("static: " + c, Modifier.isStatic(c.getModifiers()));
             Check.holds("not public: " + c, !Modifier.isPublic(c.getModifiers()) && !Modifier.isProtected(c.getModifiers()));
+            for (Method m : c.getDeclaredMethods()) {
+                Check.holds("no name of the face inside: " + m, !isOfTheFace(m.getName()));
+                Check.holds("at most seven parameters: " + m, m.getParameterCount() <= 7);
+            }
             int fields = 0;
             for (Field f : c.getDeclaredFields()) {
                 fields += Modifier.isStatic(f.getModifiers()) ? 0 : 1;
             }
             Check.holds("at most some twenty fields: " + c, fields <= 20);
         }
+    }
+
+    private static boolean isOfTheFace(String name) {
+        return Arrays.stream(FACE).anyMatch(f -> f.startsWith(name + "("));
     }
 
     private static void source() throws IOException {
