@@ -901,9 +901,10 @@ public final class ThinkingArms {
             Clause clause = new Clause();
             clause.test = readTest(0);
             need(':');
-            do {
+            readAct(clause);
+            for (int acts = 1; acts < MOST_ACTS && isAct(sign); acts++) {
                 readAct(clause);
-            } while (clause.actCount < MOST_ACTS && isAct(sign));
+            }
             return clause;
         }
 
